@@ -115,9 +115,10 @@ public final class BracketDraws {
         if (entries.many < 2) {
             return STATE;
         }
+        long all = allDraws();
         int seedSlot = entries.seedSlot(player);
-        if (seedSlot != NONE) {
-            return seedSlot == slot ? allDraws() : 0;
+        if (all == 0 || seedSlot != NONE) {
+            return seedSlot == slot ? all : 0;
         }
         trial.begin(entries);
         return trial.pin(player, slot) ? trial.total() : 0;
@@ -542,7 +543,7 @@ public final class BracketDraws {
             return slots() - many;
         }
 
-        /** From the whole row down: the later of two like numbers stands in the second half of what the row was made of. */
+        /** From the whole row back to the row for 1 slot: of each two numbers the second one is new. */
         int seedSlot(int player) {
             int left = told(player, SEED);
             int slots = slots();
@@ -1105,7 +1106,7 @@ public final class BracketDraws {
             return sum;
         }
 
-        /** The dearest loop of all, so it reads the rows themselves: of unpinned players a part stands in the first half. */
+        /** The dearest loop of all, so it reads the rows themselves: part of the unpinned stand in the first half. */
         private long halvesWays(int block, int unpinned) {
             if (block < 1 || 2 * block + 1 >= ways.length) {
                 return 0;
