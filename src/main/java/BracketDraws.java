@@ -11,14 +11,14 @@ public final class BracketDraws {
     private final Situation now = new Situation();
     private final Situation keptImage = new Situation();
     private final History history = new History();
-    private final Tape tape = new Tape();
-    private final Text text = new Text(tape);
+    private final Text text = new Text();
     private final Counter counter = new Counter();
     private final Counter trial = new Counter();
     private final Numbering numbering = new Numbering();
     private final Entries eased = new Entries();
     private final Draw likely = new Draw();
     private boolean hasImage;
+    /** What relaxed() answers, dear to find: kept as long as the counter counts for the same entries. */
     private int easing = UNKNOWN;
 
     public BracketDraws() {
@@ -87,12 +87,12 @@ public final class BracketDraws {
         if (letter < 32 || letter > 126) {
             return BAD;
         }
-        return tape.add(letter) ? tape.length : FULL;
+        return text.tape.add(letter) ? text.tape.length : FULL;
     }
 
     public int players() {
         int fault = text.read(now.entries);
-        tape.length = 0;
+        text.tape.length = 0;
         if (fault != NONE) {
             return FAULTS - fault;
         }
@@ -166,7 +166,8 @@ public final class BracketDraws {
             return NOT;
         }
         int mixed = z * 1103515245 + 12345;
-        long number = ((mixed & Integer.MAX_VALUE) / 256) % all;
+        int withoutSign = mixed & 0x7fffffff;
+        long number = (withoutSign / 256) % all;
         takeNumbered(number);
         return number;
     }
@@ -215,14 +216,17 @@ public final class BracketDraws {
         if (now.entries.many < 2) {
             return STATE;
         }
-        int levels = easedLevels();
-        if (levels != NOT && done == 1) {
-            now.entries.clubLevel = levels / 10;
-            now.entries.regionLevel = levels % 10;
+        boolean helpNeeded = allDraws() == 0;
+        if (easing == UNKNOWN) {
+            easing = helpNeeded ? searchLevels() : now.entries.bothLevels();
+        }
+        if (easing != NOT && done == 1) {
+            now.entries.clubLevel = easing / 10;
+            now.entries.regionLevel = easing % 10;
             now.draw.drop();
             history.remember(now);
         }
-        return levels;
+        return easing;
     }
 
     // ---- rounds
@@ -360,7 +364,7 @@ public final class BracketDraws {
             case 6:
                 return entries.regionLevel;
             case 7:
-                return tape.length;
+                return text.tape.length;
             case 8:
                 return history.at;
             case 9:
@@ -401,15 +405,7 @@ public final class BracketDraws {
         history.remember(now);
     }
 
-    /** The relaxed levels, kept as long as the counted entries stay the same, for they are dear to find. */
-    private int easedLevels() {
-        boolean helpNeeded = allDraws() == 0;
-        if (easing == UNKNOWN) {
-            easing = helpNeeded ? searchLevels() : 10 * now.entries.clubLevel + now.entries.regionLevel;
-        }
-        return easing;
-    }
-
+    /** Both levels as they would have to be for a draw, or NOT. */
     private int searchLevels() {
         eased.copyFrom(now.entries);
         for (int step = 0; step < 2 * MOST_LEVEL; step++) {
@@ -422,7 +418,7 @@ public final class BracketDraws {
             }
             trial.begin(eased);
             if (trial.total() > 0) {
-                return 10 * eased.clubLevel + eased.regionLevel;
+                return eased.bothLevels();
             }
         }
         return NOT;
@@ -459,6 +455,10 @@ public final class BracketDraws {
 
         boolean hasBoth(int player, int other) {
             return has(player) && has(other) && player != other;
+        }
+
+        int bothLevels() {
+            return 10 * clubLevel + regionLevel;
         }
 
         boolean hasSlot(int slot) {
@@ -580,7 +580,8 @@ public final class BracketDraws {
 
     /**
      * The draw taken, with its rounds. Blocks are counted as in a heap: 1 is all, 2b and 2b + 1 are the halves of
-     * block b, the slots come last, so that block k of round r is (slots >> r) + k.
+     * block b, the slots come last, so that block k of round r is (slots >> r) + k. What is told by hand stands with
+     * the block of its meeting, so that it can't be taken for one of a later round.
      */
     private static final class Draw {
         boolean taken;
@@ -613,10 +614,6 @@ public final class BracketDraws {
             slots = entries.slots();
             rounds = entries.rounds();
             played = 0;
-            nothingByHand();
-        }
-
-        void nothingByHand() {
             for (int block = 0; block < hand.length; block++) {
                 hand[block] = NONE;
             }
@@ -687,7 +684,6 @@ public final class BracketDraws {
                 came[block] = comesThrough(block, entries);
             }
             played++;
-            nothingByHand();
         }
 
         int comesThrough(int block, Entries entries) {
@@ -817,12 +813,8 @@ public final class BracketDraws {
     private static final class Text {
         final Entries entries = new Entries();
         private final int[] values = new int[SEED_SLOT];
-        private final Tape tape;
+        final Tape tape = new Tape();
         private int place;
-
-        Text(Tape tape) {
-            this.tape = tape;
-        }
 
         /** The fault's place, or NONE. */
         int read(Entries already) {
@@ -1134,7 +1126,7 @@ public final class BracketDraws {
         private final int[] sets = new int[2 * MOST_SLOTS];
         private final long[] numbers = new long[2 * MOST_SLOTS];
 
-        /** Lays who stands in each slot into came. */
+        /** Lays who stands in each slot into came: the set of one player, less 1, has the bits below that player's. */
         void lay(Counter counter, long number, int[] came) {
             sets[1] = counter.all;
             numbers[1] = number;
@@ -1142,7 +1134,7 @@ public final class BracketDraws {
                 split(counter, block);
             }
             for (int i = counter.slots; i < 2 * counter.slots && i < came.length && i < sets.length; i++) {
-                came[i] = sets[i] == 0 ? BYE : Integer.numberOfTrailingZeros(sets[i]);
+                came[i] = sets[i] == 0 ? BYE : Integer.bitCount(sets[i] - 1);
             }
         }
 

@@ -15,6 +15,8 @@ public final class DrawsTest {
         meets();
         apart();
         countsWithoutDraws();
+        twoPlayersAreEnough();
+        countsFollowEachChange();
         numbersInOrder();
         theFirstAndTheLastOfTen();
         takeRefused();
@@ -195,6 +197,52 @@ public final class DrawsTest {
         Check.due("count(8)", x.count(8), 0);
     }
 
+    private static void twoPlayersAreEnough() {
+        BracketDraws x = Calls.with("x10;x20");
+        Check.due("howMany() of two", x.howMany(), 2);
+        Check.due("stands(1, 0) of two", x.stands(1, 0), 1);
+        Check.due("meets(1, 0, 1) of two", x.meets(1, 0, 1), 2);
+        Check.due("apart(3, 1) of two", x.apart(3, 1), 0);
+        Check.due("apart(2, 1) of two", x.apart(2, 1), 2);
+        Check.due("wins(1) of two", x.wins(1), 2);
+        Check.due("relaxed(0) of two", x.relaxed(0), 10);
+        Check.due("drawn(7) of two", x.drawn(7), 1);
+        Check.due("swapped(0, 1) of two", x.swapped(0, 1), 0);
+        Check.due("soonest(0, 1) of two", x.soonest(0, 1), 1);
+        x = Calls.with("s1;x20");
+        Check.due("one draw alone", x.howMany(), 1);
+        Check.due("stands(1, 1)", x.stands(1, 1), 1);
+        Check.due("apart(1, 1)", x.apart(1, 1), 1);
+        Check.due("drawn(9)", x.drawn(9), 0);
+    }
+
+    private static void countsFollowEachChange() {
+        BracketDraws x = Calls.with("c1;c1;r1;r1");
+        x.take(0);
+        Check.due("howMany()", x.howMany(), 16);
+        Check.due("relaxed(0)", x.relaxed(0), 10);
+        x.level(0, 2);
+        Check.due("howMany() with level 2", x.howMany(), 0);
+        Check.due("relaxed(0) with level 2", x.relaxed(0), 10);
+        x.undo();
+        Check.due("swapped(0, 2) behind undo()", x.swapped(0, 2), 2);
+        x.tell(1, 0, 2);
+        Check.due("howMany(), another club", x.howMany(), 24);
+        x.level(1, 1);
+        Check.due("howMany(), regions apart", x.howMany(), 16);
+        x.tell(3, 1, 0);
+        Check.due("howMany(), no regions", x.howMany(), 24);
+        x.tell(3, 2, 1);
+        Check.due("howMany(), a seed", x.howMany(), 6);
+        x.tell(3, 3, 50);
+        Check.due("howMany(), a strength", x.howMany(), 6);
+        x.image();
+        x.player(0, 0, 0, 0);
+        Check.due("howMany(), one more", x.howMany(), 4 * 3 * 2 * (2 * 2 * 3));
+        x.back();
+        Check.due("howMany() behind back()", x.howMany(), 6);
+    }
+
     private static void numbersInOrder() {
         BracketDraws x = Calls.plain(3);
         for (int number = 0; number < OF_THREE.length; number++) {
@@ -371,6 +419,13 @@ public final class DrawsTest {
         Check.due("undo()", x.undo(), 0);
         Check.due("count(5)", x.count(5), 1);
         Check.due("howMany()", x.howMany(), 0);
+        x = Calls.with("c1r2;c1r2;x1;x1");
+        x.level(0, 1);
+        x.level(1, 4);
+        Check.due("relaxed(1), regions from 4", x.relaxed(1), 11);
+        Check.due("count(5)", x.count(5), 1);
+        Check.due("count(6)", x.count(6), 1);
+        Check.due("howMany()", x.howMany(), 16);
     }
 
     private static void relaxedRefused() {

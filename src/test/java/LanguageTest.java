@@ -138,8 +138,7 @@ public final class LanguageTest {
     }
 
     private static void librariesUsed(String code) {
-        Set<String> allowed = Set.of("Integer.bitCount", "Integer.numberOfTrailingZeros", "Integer.MAX_VALUE",
-                "Math.max", "Math.min", "System.arraycopy");
+        Set<String> allowed = Set.of("Integer.bitCount", "Math.max", "Math.min", "System.arraycopy");
         Matcher used = Pattern.compile("\\b(?:Integer|Long|Math|System|Arrays|List|String)\\.\\w+").matcher(code);
         while (used.find()) {
             Check.due(used.group() + " is one of those that may be used", allowed.contains(used.group()) ? 1 : 0, 1);
@@ -150,7 +149,7 @@ public final class LanguageTest {
     private static void rowsAreMadeInConstructors(String code) {
         for (String line : code.split("\n")) {
             if (line.contains("new ")) {
-                boolean field = line.matches("\\s*(private )?(final )[\\w\\[\\]]+ \\w+ = new .*;");
+                boolean field = line.matches("\\s*(private )?final [\\w\\[\\]]+ \\w+ = new .*;");
                 boolean ofHistory = line.trim().equals("kept[i] = new Situation();");
                 Check.due("made where rows are made: " + line.trim(), field || ofHistory ? 1 : 0, 1);
             }
