@@ -19,7 +19,6 @@ public final class PlayersTest {
         textsWithSeedsAlready();
         textsOfTooMany();
         faultChangesNothing();
-        textEndsDrawAndChanges();
         Check.end();
     }
 
@@ -276,16 +275,5 @@ public final class PlayersTest {
         Check.due("count(9)", x.count(9), 1);
         Check.due("redo()", x.redo(), 0);
         Check.due("players(), the tape is empty", x.players(), -100);
-    }
-
-    private static void textEndsDrawAndChanges() {
-        BracketDraws x = Calls.plain(3);
-        x.take(2);
-        x.play();
-        x.undo();
-        Check.due("players()", Calls.texted(x, "c1"), 4);
-        Check.due("number()", x.number(), STATE);
-        Check.due("count(8)", x.count(8), 0);
-        Check.due("count(9)", x.count(9), 0);
     }
 }

@@ -304,15 +304,15 @@ public final class RoundsEdgesTest {
      * Promise 22: "BAD" No such round, no such block: one too small, one too large, far off; ahead of STATE and NOT.
      */
     static void promise22NoSuchRoundNoSuchBlock() {
-        int[] slots = {2, 2, 2, 4, 4, 8, 8, 8, 8, 16, 16};
         for (int players = 0; players <= 10; players++) {
             BracketDraws x = Calls.plain(players);
+            int slots = AllDraws.slotsFor(players);
             for (int i = 0; i < 3; i++) {
                 for (int round : new int[] {-1, 0, LAST_ROUND[players] + 1, 5, 32, 33, MIN, MIN + 1, MAX}) {
                     Check.due("through(" + round + ", 0) of " + players, x.through(round, 0), BAD);
                 }
                 for (int round = 1; round <= LAST_ROUND[players]; round++) {
-                    for (int k : new int[] {-1, slots[players] >> round, 8, MIN, MAX}) {
+                    for (int k : new int[] {-1, slots >> round, 8, MIN, MAX}) {
                         Check.due("through(" + round + ", " + k + ") of " + players, x.through(round, k), BAD);
                     }
                 }

@@ -260,16 +260,16 @@ public final class TakenEdgesTest {
 
     /** Promise 14: "BAD; STATE: there is none." A slot that there is not is BAD, also without a draw. */
     static void promise14Refused() {
-        int[] slots = {2, 2, 2, 4, 4, 8, 8, 8, 8, 16, 16};
         for (int players = 0; players <= 10; players++) {
             BracketDraws x = Calls.plain(players);
+            int slots = AllDraws.slotsFor(players);
             for (int i = 0; i < 2; i++) {
-                for (int slot : new int[] {-1, slots[players], slots[players] + 1, 16, 32, MIN, MAX}) {
+                for (int slot : new int[] {-1, slots, slots + 1, 16, 32, MIN, MAX}) {
                     Check.due("slot(" + slot + ") of " + players, x.slot(slot), BAD);
                 }
                 boolean taken = i == 1 && players > 1;
-                Check.holds("slot(0) is STATE without a draw", x.slot(0) == STATE != taken);
-                Check.holds("the last slot is STATE without a draw", x.slot(slots[players] - 1) == STATE != taken);
+                Check.holds("slot(0) is STATE without a draw", (x.slot(0) == STATE) != taken);
+                Check.holds("the last slot is STATE without a draw", (x.slot(slots - 1) == STATE) != taken);
                 x.take(0);
             }
         }
@@ -297,9 +297,9 @@ public final class TakenEdgesTest {
                 for (int player : new int[] {-1, players, 10, 11, MIN, MAX}) {
                     Check.due("where(" + player + ") of " + players, x.where(player), BAD);
                 }
+                boolean taken = i == 1 && players > 1;
                 if (players > 0) {
-                    Check.holds("where() is STATE without a draw",
-                            x.where(players - 1) == STATE == (i == 0 || players < 2));
+                    Check.holds("where() is STATE without a draw", (x.where(players - 1) == STATE) != taken);
                 }
                 x.take(0);
             }
@@ -431,6 +431,39 @@ public final class TakenEdgesTest {
         }
     }
 
+    /**
+     * Promise 17: "two PLAYERS of THE DRAW changed SLOTS" All twos in all draws of five, with seeds, a club and byes: in
+     * the draw of that number just they stand otherwise, and changed again it is the first.
+     */
+    static void promise17ChangedAndChangedAgain() {
+        for (int number = 0; number < 40; number++) {
+            for (int two = 0; two < 20; two++) {
+                int player = two / 4;
+                int other = (player + 1 + two % 4) % 5;
+                BracketDraws x = Calls.with("c1;s2;c1;x1;s5");
+                Check.due("howMany()", x.howMany(), 40);
+                x.take(number);
+                String before = Calls.printed(x);
+                String due = before.replace((char) ('0' + player), '#').replace((char) ('0' + other),
+                        (char) ('0' + player)).replace('#', (char) ('0' + other));
+                long swapped = x.swapped(player, other);
+                if (swapped >= 0) {
+                    x.take(swapped);
+                    Check.due(before + ", " + player + " and " + other + " changed", Calls.printed(x), due);
+                    Check.due("changed again", x.swapped(other, player), number);
+                } else {
+                    boolean seeded = player == 1 || player == 4 || other == 1 || other == 4;
+                    Check.holds(due + " is no draw", seeded || samePair(due, '0', '2'));
+                }
+            }
+        }
+    }
+
+    /** Whether two signs of a printed draw stand in one block of round 1. */
+    private static boolean samePair(String printed, char one, char two) {
+        return printed.indexOf(one) / 4 == printed.indexOf(two) / 4;
+    }
+
     /** Promise 17: "NOT: it is none." For a club, for a region, for a seed's slot; asking changes nothing. */
     static void promise17ItIsNone() {
         BracketDraws x = Calls.with("c1r1;c1;r1;x1");
@@ -544,7 +577,7 @@ public final class TakenEdgesTest {
                     Check.due("of twice " + other, call.of(x, other, other), BAD);
                 }
                 if (players > 1) {
-                    Check.holds("STATE is without a draw", call.of(x, 0, players - 1) == STATE == (i == 0));
+                    Check.holds("STATE is without a draw", (call.of(x, 0, players - 1) == STATE) == (i == 0));
                 }
                 x.take(0);
             }
