@@ -23,6 +23,10 @@ final class AllDraws {
 
     /** A player: club, region, seed. */
     AllDraws(int[][] players, int clubLevel, int regionLevel) {
+        this(players, clubLevel, regionLevel, true);
+    }
+
+    private AllDraws(int[][] players, int clubLevel, int regionLevel, boolean list) {
         this.players = players;
         levels = new int[] {clubLevel, regionLevel};
         slots = slotsFor(players.length);
@@ -36,8 +40,10 @@ final class AllDraws {
                 seated[seedSlots[who]] = who;
             }
         }
-        place(0, 0);
-        complete = draws.size() <= MOST_DRAWS && steps <= MOST_STEPS;
+        if (list) {
+            place(0, 0);
+        }
+        complete = list && draws.size() <= MOST_DRAWS && steps <= MOST_STEPS;
         if (complete) {
             draws.sort((a, b) -> compare(a, b, 0, slots));
         }
@@ -89,6 +95,18 @@ final class AllDraws {
             }
         }
         return -1;
+    }
+
+    /** Whether a row, in which each player stands once, is a draw. */
+    static boolean isLawful(int[][] players, int clubLevel, int regionLevel, int[] draw) {
+        AllDraws one = new AllDraws(players, clubLevel, regionLevel, false);
+        for (int slot = 0; slot < one.slots; slot++) {
+            one.row[slot] = draw[slot];
+            if (!one.lawfulSoFar(slot)) {
+                return false;
+            }
+        }
+        return true;
     }
 
     private void place(int slot, int used) {
